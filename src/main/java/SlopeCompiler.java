@@ -1742,7 +1742,7 @@ public final class SlopeCompiler {
         }
 
         /** ACTIONS from a to b; each level within has one state less, so there are no more levels than states. */
-        void lay(int a, int b, int c) {
+        private void lay(int a, int b, int c) {
             int end = b;
             for (int turn = 0; turn < LONGEST_WALK && c > 0 && end - a > 1; turn++) {
                 int there = a + firstCut(end - a, c);

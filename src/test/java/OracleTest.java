@@ -1,8 +1,11 @@
+import java.util.Arrays;
 import java.util.Random;
 
 /** Holds the class against the Oracle over texts made by chance (from fixed seeds). */
 public final class OracleTest {
     private static final Check CHECK = new Check();
+    /** How many RUNS were asked about, by why they stopped. */
+    private static final int[] STOPS = new int[6];
 
     private OracleTest() {
     }
@@ -19,7 +22,8 @@ public final class OracleTest {
             CHECK.at("altered, seed " + seed);
             altered(seed, faults);
         }
-        System.out.println("faults met: none " + faults[0] + ", 1 " + faults[1] + ", 2 " + faults[2] + ", 3 " + faults[3]);
+        System.out.println("texts by their faults (0 none): " + Arrays.toString(faults)
+                + ", runs by why they stopped (0 not): " + Arrays.toString(STOPS));
         CHECK.end("OracleTest");
     }
 
@@ -85,6 +89,7 @@ public final class OracleTest {
     }
 
     private static void askAll(SlopeCompiler x, Oracle o, Random random) {
+        STOPS[o.run(0)]++;
         for (int w = -1; w < 8; w++) {
             CHECK.due("count(" + w + ")", x.count(w), o.count(w));
             CHECK.due("run(" + w + ")", x.run(w), o.run(w));

@@ -5,6 +5,10 @@ import java.util.Random;
 /** Makes texts by chance, from a seed: programs that hold, and ones with a few bytes altered. */
 final class TextMaker {
     private static final String[] WORDS = {"x", "y", "z", "ab", "u", "v", "w", "k", "lp", "abcd", "on", "ro", "i", "e"};
+    private static final String[] ODD_NUMBERS = {"0", "1", "7", "8", "9", "20", "21", "9999", "10000", "0009", "99999999999"};
+    private static final String[] ODD_LINES = {"end;", "else;", "loop i 3;", "if 1<2;", "in q;", "row q 2;", "alias q x 0;",
+        "in x;", "in y;", "row x 3;", "row y 8;", "alias z x 1;", "q=1;", "p=p;", "loop p 1;end;", "if 1=1;else;end;",
+        "loop i 1;loop i 1;", "out (((((((1)))))));", "out ((((((((2))))))));", "out (((((((((3)))))))));", "abcde=1;"};
     private static final String ODD = ";;[]()=<+-*/ \n019azin{\t@" + (char) 200;
 
     private final Random random;
@@ -60,7 +64,11 @@ final class TextMaker {
                 declareRow();
             }
         }
-        body(lines, 0, wild);
+        if (wild && upTo(3) == 0) {
+            heavyLoops(lines);
+        } else {
+            body(lines, 0, wild);
+        }
         if (upTo(3) > 0) {
             for (int k = upTo(5); k >= 0; k--) {
                 word("out");
@@ -69,6 +77,24 @@ final class TextMaker {
             }
         }
         return text.toString();
+    }
+
+    /** Loops that take most of what a run may do, so that the texts behind them meet its ends. */
+    private void heavyLoops(int lines) {
+        for (int l = 0; l < 2; l++) {
+            word("loop");
+            word(target());
+            put(String.valueOf(14 + upTo(7)));
+            put(";");
+        }
+        for (int l = upTo(5); l >= 0; l--) {
+            put(target());
+            put("=");
+            put(upTo(2) == 0 ? variables.get(upTo(variables.size())) : String.valueOf(upTo(9)));
+            put(";");
+        }
+        put("end;end;");
+        body(lines, 0, true);
     }
 
     private void declareRow() {
@@ -186,30 +212,58 @@ final class TextMaker {
         }
     }
 
-    /** The text with one to three small changes. */
+    /** The text with one to three small changes, of bytes or of tokens. */
     String alter(String whole) {
         StringBuilder s = new StringBuilder(whole);
+        boolean byTokens = upTo(2) == 0;
         for (int t = 1 + upTo(3); t > 0 && s.length() > 1; t--) {
-            int at = upTo(s.length());
-            int pick = upTo(7);
-            if (pick == 0) {
-                s.deleteCharAt(at);
-            } else if (pick == 1) {
-                s.insert(at, ODD.charAt(upTo(ODD.length())));
-            } else if (pick == 2) {
-                s.setCharAt(at, ODD.charAt(upTo(ODD.length())));
-            } else if (pick == 3) {
-                s.insert(at, new String[] {"end;", "else;", "loop i 3;", "if 1<2;", "in q;", "row q 2;", "alias q x 0;",
-                    "out ", "((((", "10000", "x[", "alias", "abcde"}[upTo(13)]);
-            } else if (pick == 4) {
-                s.setLength(at);
-            } else if (pick == 5) {
-                int to = Math.min(s.length(), at + 1 + upTo(12));
-                s.insert(at, s.substring(at, to));
+            if (byTokens) {
+                alterToken(s);
             } else {
-                s.delete(at, Math.min(s.length(), at + 1 + upTo(12)));
+                alterBytes(s);
             }
         }
         return s.toString();
+    }
+
+    private void alterBytes(StringBuilder s) {
+        int at = upTo(s.length());
+        int pick = upTo(6);
+        if (pick == 0) {
+            s.deleteCharAt(at);
+        } else if (pick == 1) {
+            s.insert(at, ODD.charAt(upTo(ODD.length())));
+        } else if (pick == 2) {
+            s.setCharAt(at, ODD.charAt(upTo(ODD.length())));
+        } else if (pick == 3) {
+            s.setLength(at);
+        } else if (pick == 4) {
+            s.insert(at, s.substring(at, Math.min(s.length(), at + 1 + upTo(12))));
+        } else {
+            s.delete(at, Math.min(s.length(), at + 1 + upTo(12)));
+        }
+    }
+
+    /** Puts another number for a number, another word for a word, a LINE ahead of a LINE. */
+    private void alterToken(StringBuilder s) {
+        int at = upTo(s.length());
+        char c = s.charAt(at);
+        if (Character.isDigit(c)) {
+            s.replace(at, at + 1, ODD_NUMBERS[upTo(ODD_NUMBERS.length)]);
+        } else if (c >= 'a' && c <= 'z' && upTo(3) > 0) {
+            int from = at;
+            while (from > 0 && s.charAt(from - 1) >= 'a' && s.charAt(from - 1) <= 'z') {
+                from--;
+            }
+            while (at < s.length() && s.charAt(at) >= 'a' && s.charAt(at) <= 'z') {
+                at++;
+            }
+            s.replace(from, at, WORDS[upTo(WORDS.length)]);
+        } else if (upTo(4) == 0) {
+            s.insert(0, upTo(2) == 0 ? "in q;in r;in s;in t;" : "row q 2;row r 1;alias s q 1;row t 8;");
+        } else {
+            int line = upTo(3) == 0 ? 0 : s.lastIndexOf(";", at) + 1;
+            s.insert(line, ODD_LINES[upTo(ODD_LINES.length)]);
+        }
     }
 }
