@@ -921,12 +921,17 @@ public final class SlopeCompiler {
             return true;
         }
 
-        private boolean rowLine() {
+        /** From row or alias on, up to the W, which is left. */
+        private boolean newRowName() {
             if (program.rows >= ROWS) {
                 return fail(TOO_MUCH);
             }
             scanner.advance();
-            if (!newName()) {
+            return newName();
+        }
+
+        private boolean rowLine() {
+            if (!newRowName()) {
                 return false;
             }
             int name = scanner.value;
@@ -941,11 +946,7 @@ public final class SlopeCompiler {
         }
 
         private boolean aliasLine() {
-            if (program.rows >= ROWS) {
-                return fail(TOO_MUCH);
-            }
-            scanner.advance();
-            if (!newName()) {
+            if (!newRowName()) {
                 return false;
             }
             int name = scanner.value;
