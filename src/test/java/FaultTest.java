@@ -1,7 +1,7 @@
 /** FAULTS and their places: a text has ^ ahead of the place (it is taken out). Promises 3 and 4, Terms 1. */
 public final class FaultTest {
     private static final Check CHECK = new Check();
-    private static final String KEPT = "in p;row h 3;alias g h 1;out p*p;";
+    private static final Texts TEXTS = new Texts(CHECK);
 
     private FaultTest() {
     }
@@ -19,30 +19,11 @@ public final class FaultTest {
     }
 
     private static void fault(String marked, int kind) {
-        int place = marked.indexOf('^');
-        String text = marked.substring(0, place) + marked.substring(place + 1);
-        CHECK.at(marked);
-        SlopeCompiler x = Check.of(KEPT);
-        x.set(0, 5, 1);
-        CHECK.due("text", Check.text(x, text), -1);
-        CHECK.due("fault(0)", x.fault(0), kind);
-        CHECK.due("fault(1)", x.fault(1), place);
-        CHECK.due("fault(2)", x.fault(2), -1);
-        CHECK.due("bytes are gone: count(6)", x.count(6), 0);
-        CHECK.due("all else stays: out(0, 0)", x.out(0, 0), 25);
-        CHECK.due("all else stays: count(0)", x.count(0), 4);
-        CHECK.due("all else stays: count(3)", x.count(3), 2);
-        CHECK.due("all else stays: count(5)", x.count(5), 4);
+        TEXTS.fault(marked, kind);
     }
 
     private static void fine(String text, int lines) {
-        CHECK.at(text);
-        SlopeCompiler x = new SlopeCompiler();
-        Check.text(x, "in ;");
-        CHECK.due("text", Check.text(x, text), lines);
-        CHECK.due("fault(0)", x.fault(0), 0);
-        CHECK.due("fault(1)", x.fault(1), -1);
-        CHECK.due("count(0)", x.count(0), lines);
+        TEXTS.fine(text, lines);
     }
 
     private static void notTokens() {
