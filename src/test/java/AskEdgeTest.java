@@ -417,9 +417,32 @@ public final class AskEdgeTest {
         }
         x = Check.of("in a;in b;in c;in d;out b;out c;out d;out a;");
         CHECK.due("three swaps", x.determinant(4), P - 1);
+        matricesInTurn();
         x = Check.of("in a;in b;out 0-a;out 0-b;");
         CHECK.due("determinant(1)", x.determinant(1), P - 1);
         CHECK.due("determinant(2)", x.determinant(2), 1);
+    }
+
+    /** Of the first n rows and columns alone, whatever was asked for just before. */
+    private static void matricesInTurn() {
+        SlopeCompiler x = Check.of("in a;in b;in c;in d;out b+c+d;out a+b+c+d;out b+c;out a+b*2+d*5;");
+        int[] due = {0, P - 1, 0, 2};
+        for (int n = 1; n <= 4; n++) {
+            CHECK.due("rank()", x.rank(), 4);
+            for (int m = 1; m <= 4; m++) {
+                CHECK.due("determinant(" + n + ")", x.determinant(n), due[n - 1]);
+                CHECK.due("determinant(" + m + ") behind it", x.determinant(m), due[m - 1]);
+            }
+        }
+        String[] fewer = {"in a;in b;in c;in d;out a;", "in a;in b;in c;in d;out b;out b;", "in a;out a;out 3;out a+a;out a;",
+            "in a;in b;out a+b;out a+b;out 5;out b+a;", "in a;in b;in c;in d;", "out 1;out 2;", ""};
+        int[] ranks = {1, 1, 1, 1, 0, 0, 0};
+        for (int t = 0; t < fewer.length; t++) {
+            Check.text(x, "in a;in b;in c;in d;out a+b+c+d;out b+c+d;out c+d;out d;");
+            CHECK.due("rank()", x.rank(), 4);
+            Check.text(x, fewer[t]);
+            CHECK.due("rank() of " + fewer[t], x.rank(), ranks[t]);
+        }
     }
 
     /** All OUTS, 20 of them; by P, so that a slope of P counts as 0. */

@@ -446,15 +446,42 @@ public final class TextEdgeTest {
                 TEXTS.faultAt(cut + " \n ", 1, n + 3);
             }
         }
-        // it is n that counts, not how many bytes there are
-        CHECK.at("the length is n");
+        itIsNThatCounts(whole);
+        fault(" ".repeat(895) + "out 1^", 1);
+        fault(" ".repeat(889) + "loop i " + "0002^", 1);
+        fault(" ".repeat(896) + "out ^", 1);
+    }
+
+    /** Not how many bytes there are: a word, a number that is cut off by n has no more letters, digits. */
+    private static void itIsNThatCounts(String whole) {
         SlopeCompiler x = new SlopeCompiler();
-        Check.feed(x, Check.bytesOf("out 1+2;out 3;out 4;"));
-        CHECK.due("text(7)", x.text(7), -1);
+        for (int n = 0; n <= whole.length(); n++) {
+            CHECK.at("text(" + n + ") of " + whole);
+            String cut = whole.substring(0, n);
+            int alone = Check.text(x, cut);
+            int fault = x.fault(0);
+            int place = x.fault(1);
+            Check.feed(x, Check.bytesOf(whole));
+            CHECK.due("text", x.text(n), alone);
+            CHECK.due("fault(0)", x.fault(0), fault);
+            CHECK.due("fault(1)", x.fault(1), place);
+            CHECK.due("the place is n", place, alone < 0 ? n : -1);
+        }
+        CHECK.at("a number cut off by n");
+        Check.feed(x, Check.bytesOf("out 99991;out ab;end"));
+        CHECK.due("text(8)", x.text(8), -1);
         CHECK.due("fault(0)", x.fault(0), 1);
-        CHECK.due("fault(1)", x.fault(1), 7);
-        Check.feed(x, Check.bytesOf("out 1+2;out 3;out 4;"));
-        CHECK.due("text(8)", x.text(8), 1);
+        CHECK.due("fault(1)", x.fault(1), 8);
+        Check.feed(x, Check.bytesOf("out 99991;out ab;end"));
+        CHECK.due("text(9)", x.text(9), -1);
+        CHECK.due("fault(0)", x.fault(0), 2);
+        CHECK.due("fault(1)", x.fault(1), 4);
+        Check.feed(x, Check.bytesOf("in abcd;out abcdefg;"));
+        CHECK.due("a word cut off by n: text(16)", x.text(16), -1);
+        CHECK.due("fault(1)", x.fault(1), 16);
+        Check.feed(x, Check.bytesOf("in abcd;out abcdefg;"));
+        CHECK.due("text(17)", x.text(17), -1);
+        CHECK.due("fault(1)", x.fault(1), 12);
     }
 
     /** The least and the greatest place that there is. */
