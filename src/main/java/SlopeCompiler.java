@@ -757,7 +757,8 @@ public final class SlopeCompiler {
             } else if (bytes[position] >= '0' && bytes[position] <= '9') {
                 kind = NUMBER;
                 while (position < length && bytes[position] >= '0' && bytes[position] <= '9') {
-                    value = Math.min(value * 10 + bytes[position] - '0', GREATEST_NUMBER + 1);
+                    value = value * 10 + bytes[position] - '0';
+                    value = value > GREATEST_NUMBER ? GREATEST_NUMBER + 1 : value;
                     position++;
                 }
             } else {
